@@ -271,6 +271,11 @@ public final class SmokeHomePromises {
         due(8, "go(2) with one log", x.go(2), 13);
         due(8, "of(0, 3)", x.of(0, 3), 0);
         due(8, "go(2) with none", x.go(2), 13);
+        due(8, "of(0, 4) with none", x.of(0, 4), 0);
+        x.change(0, 4, 7);
+        due(8, "go(2) with none elsewhere", x.go(2), 13);
+        due(8, "of(0, 4) with none elsewhere", x.of(0, 4), 7);
+        x.change(0, 4, 0);
         x.wood(2, 9998);
         x.change(0, 5, 7);
         due(8, "go(2) to the most wood", x.go(2), 9999);
@@ -336,6 +341,22 @@ public final class SmokeHomePromises {
             x.go(1);
             due(8, "then up, kind " + kind, x.of(0, 4), 15);
         }
+        for (int from = 0; from < 25; from++) {
+            for (int home = 0; home < 25; home++) {
+                dueFirst(from, home, FIRE, from / 5 != home / 5);
+                dueFirst(from, home, POOR, from % 5 == home % 5);
+            }
+        }
+    }
+
+    private static void dueFirst(int from, int home, int kind, boolean byRow) {
+        SmokeHome x = new SmokeHome();
+        x.fire(kind, home, home);
+        x.change(0, 4, from);
+        x.change(0, 5, 8);
+        x.go(1);
+        int way = byRow ? 5 * Integer.signum(home / 5 - from / 5) : Integer.signum(home % 5 - from % 5);
+        due(8, "kind " + kind + " from " + from + " to " + home, x.of(0, 4), from + way);
     }
 
     private static void goByKinds() {
@@ -411,7 +432,28 @@ public final class SmokeHomePromises {
         home.fire(FIRE, 6, 1);
         home.change(0, 5, 6);
         due(8, "three cross at home", home.go(1), 12);
+        crossingWithLittle(0, 0);
+        crossingWithLittle(1, 1);
         due(8, "now(3) at home", home.now(3), 3);
+    }
+
+    /** One comes to where the other one stands, either of which may be the first by number. */
+    private static void crossingWithLittle(int much, int crossed) {
+        for (int comes = 0; comes < 2; comes++) {
+            SmokeHome x = new SmokeHome();
+            x.fire(FIRE, 0, 24);
+            x.fire(FIRE, 0, 24);
+            x.change(comes, 4, 7);
+            x.change(comes, 5, 1);
+            x.change(1 - comes, 4, 12);
+            x.change(1 - comes, 5, much);
+            x.change(1 - comes, 0, PRIEST);
+            x.go(1);
+            x.change(1 - comes, 4, 17);
+            x.go(1);
+            due(8, "cell(17, 2) with " + much, x.cell(17, 2), much == 0 ? 1 << comes : 3);
+            due(8, "now(3) with " + much, x.now(3), crossed);
+        }
     }
 
     private static void goLimits() {
@@ -430,6 +472,10 @@ public final class SmokeHomePromises {
         due(8, "winds(20)", x.winds(20), 0);
         due(23, "winds(20)", x.winds(20), STATE);
         due(8, "go(20)", x.go(20), STATE);
+        x.image();
+        due(23, "winds(19)", x.winds(19), 0);
+        due(23, "now(0)", x.now(0), 99999);
+        due(37, "undo()", x.undo(), 99980);
         due(8, "go(19)", x.go(19), 0);
         due(8, "now(0)", x.now(0), 99999);
         due(8, "go(1)", x.go(1), STATE);
@@ -469,6 +515,10 @@ public final class SmokeHomePromises {
         due(9, "now(6)", x.now(6), 3);
         x.change(0, 5, 0);
         due(9, "now(6) of one", x.now(6), 2);
+        x.change(0, 5, 1);
+        due(9, "now(6) of both", x.now(6), 3);
+        x.wood(0, 1);
+        due(9, "now(5)", x.now(5), 1 << 24 | 1 << 3 | 1);
         due(9, "now(7)", x.now(7), BEYOND);
         due(9, "now(-1)", x.now(-1), BEYOND);
     }
@@ -547,6 +597,27 @@ public final class SmokeHomePromises {
         due(13, "stuck(1)", x.stuck(1), BEYOND);
         due(13, "stuck(-1)", x.stuck(-1), BEYOND);
         due(13, "now(0)", x.now(0), 0);
+        // The bed's smoke waits at 5 and feeds the foreign one's, until there is too little of it.
+        SmokeHome y = new SmokeHome();
+        y.wind(4);
+        y.fire(FOREIGN, 0, 6);
+        y.change(0, 3, 999);
+        y.change(0, 5, 647);
+        y.fire(BED, 5, 6);
+        y.change(1, 3, 965);
+        due(13, "stuck(0) in the last hour", y.stuck(0), 100);
+        y.image();
+        y.go(60);
+        y.go(39);
+        due(13, "of(0, 6) behind 99", y.of(0, 6), 0);
+        y.go(1);
+        due(13, "of(0, 6) behind 100", y.of(0, 6), 1);
+        y.undo();
+        y.change(1, 3, 999);
+        due(13, "stuck(0) later than that", y.stuck(0), NONE);
+        y.go(60);
+        y.go(40);
+        due(13, "of(0, 6) behind 100 with more logs", y.of(0, 6), 0);
     }
 
     private static void crosses() {
@@ -563,6 +634,22 @@ public final class SmokeHomePromises {
         x.change(0, 5, 0);
         due(14, "crosses() against the wind", x.crosses(), NONE);
         due(14, "now(3)", x.now(3), 1);
+        // One gathers smoke for eleven hours each time, the other one comes and goes.
+        SmokeHome y = new SmokeHome();
+        y.wind(1);
+        y.fire(FOREIGN, 19, 24);
+        y.change(0, 5, 55);
+        y.fire(FOREIGN, 19, 21);
+        y.change(1, 5, 18);
+        y.change(0, 3, 999);
+        y.change(1, 3, 999);
+        due(14, "crosses() in the last hour", y.crosses(), 100);
+        y.go(60);
+        y.go(39);
+        due(14, "now(3) behind 99", y.now(3), 0);
+        due(14, "crosses() next", y.crosses(), 1);
+        y.go(1);
+        due(14, "now(3) behind 100", y.now(3), 1);
     }
 
     private static void windFor() {
@@ -585,6 +672,11 @@ public final class SmokeHomePromises {
         due(15, "wind stays", y.wind(3), 0);
         due(15, "windFor(3) whatever blows now", y.windFor(3), 2);
         due(15, "wind stays", y.wind(3), 3);
+        SmokeHome z = new SmokeHome();
+        z.fire(FIRE, 11, 16);
+        z.fire(FIRE, 16, 17);
+        z.wood(17, 9999);
+        due(15, "windFor(3) to the left", z.windFor(3), 4);
     }
 
     private static void homeFor() {
@@ -908,6 +1000,10 @@ public final class SmokeHomePromises {
         dueText(x, "wind 1 ; ", -10);
         dueText(x, "fires", -1);
         dueText(x, "fir", -1);
+        dueText(x, "gire", -1);
+        dueText(x, "fira", -1);
+        dueText(x, "firez", -1);
+        dueText(x, "fire zt 3", -6);
         dueText(x, "Fire", -1);
         dueText(x, "at 3", -1);
         dueText(x, "7", -1);
@@ -1037,9 +1133,13 @@ public final class SmokeHomePromises {
         due(31, "judge(3)", x.judge(3), 0);
         due(31, "write(3, 5, 5)", x.write(3, 5, 5), BEYOND);
         x.write(3, 2, 9);
+        x.write(3, 4, 9);
         due(31, "judge(3)", x.judge(3), 3);
         due(31, "sheet(3, 32, 5)", x.sheet(3, 32, 5), 5);
         due(31, "judge(3) anew", x.judge(3), 0);
+        x.write(3, 0, 9);
+        x.sheet(3, 8, 40);
+        due(31, "judge(3) of more", x.judge(3), 26);
         due(31, "sheet(3, 0, 7)", x.sheet(3, 0, 7), 0);
         due(31, "judge(3)", x.judge(3), MISSING);
     }
@@ -1160,6 +1260,7 @@ public final class SmokeHomePromises {
         x.fire(FIRE, 0, 2);
         x.fire(FIRE, 2, 0);
         x.hold(3, 1);
+        x.hold(9, 0);
         x.wind(1);
         x.wood(9, 6);
         x.seed(5);
@@ -1171,6 +1272,9 @@ public final class SmokeHomePromises {
         x.fire(BED, 9, 9);
         x.hold(3, -1);
         x.hold(4, 2);
+        x.hold(9, 2);
+        x.change(2, 5, 7);
+        x.change(2, 6, 7);
         x.change(0, 0, JAR);
         x.wood(9, 60);
         x.wind(2);
@@ -1184,7 +1288,8 @@ public final class SmokeHomePromises {
         dueRow(37, x, 1, new int[] {FIRE, 2, 0, 48, 1, 2, 0});
         due(37, "now(3)", x.now(3), 1);
         due(37, "as(3, 0)", x.as(3, 0), 1);
-        due(37, "count(7)", x.count(7), 1);
+        due(37, "as(9, 0)", x.as(9, 0), 0);
+        due(37, "count(7)", x.count(7), 2);
         due(37, "cell(9, 0)", x.cell(9, 0), 6);
         due(37, "wind(1)", x.wind(1), 1);
         due(37, "count(6)", x.count(6), 5);
@@ -1193,6 +1298,9 @@ public final class SmokeHomePromises {
         due(37, "status(-1)", x.status(-1), 1);
         x.go(3);
         due(37, "undo() again", x.undo(), 1);
+        due(5, "fire anew", x.fire(BED, 9, 8), 2);
+        dueRow(5, x, 2, new int[] {BED, 9, 8, 50, 9, 0, 0});
+        due(37, "undo() once more", x.undo(), 1);
         due(37, "of(0, 4)", x.of(0, 4), 1);
         x.go(2);
         due(36, "image() later", x.image(), 1);
