@@ -1,3 +1,5 @@
+import com.sun.management.ThreadMXBean;
+import java.lang.management.ManagementFactory;
 import java.lang.reflect.Constructor;
 import java.lang.reflect.Field;
 import java.lang.reflect.Method;
@@ -44,6 +46,7 @@ public final class SmokeHomeLanguage {
     public static void main(String[] args) throws Exception {
         face();
         classes();
+        madeByCalls();
         source(Files.readString(Path.of("src/main/java/SmokeHome.java")));
         System.out.println(wrong == 0 ? "the language is kept" : wrong + " rules are not kept");
         if (wrong != 0) {
@@ -108,6 +111,46 @@ public final class SmokeHomeLanguage {
             }
         }
         return own;
+    }
+
+    /** All calls of a run live in one room, so that whatever a call made would count many times. */
+    private static void madeByCalls() {
+        ThreadMXBean meter = (ThreadMXBean) ManagementFactory.getThreadMXBean();
+        SmokeHome x = new SmokeHome();
+        manyCalls(x);
+        long before = meter.getThreadAllocatedBytes(Thread.currentThread().getId());
+        for (int i = 0; i < 100; i++) {
+            manyCalls(x);
+        }
+        long made = meter.getThreadAllocatedBytes(Thread.currentThread().getId()) - before;
+        holds(made < 100000, "rule 12: calls make no objects; here they made bytes: " + made);
+    }
+
+    private static void manyCalls(SmokeHome x) {
+        for (int kind = 0; kind < 7; kind++) {
+            x.fire(kind, kind, 24 - kind);
+        }
+        x.image();
+        x.sheet(0, 8, 40);
+        x.sheet(1, 8, 40);
+        x.write(0, 0, -1);
+        x.copy(0, 0, 1, 0, 40);
+        x.feed(0x62656420, 4);
+        x.text();
+        x.logsFor(0, 24, 9999, 40);
+        x.quench(20);
+        x.windFor(40);
+        x.homeFor(0, 24, 40);
+        x.build(0, 40);
+        x.kindFor(0, 40);
+        x.fits(1, 0);
+        x.kinds(1, 0);
+        x.load(0);
+        x.judge(0);
+        x.winds(20);
+        x.go(60);
+        x.undo();
+        x.status(-1);
     }
 
     private static void source(String text) {

@@ -1273,12 +1273,12 @@ public final class SmokeHomePromises {
         x.hold(3, -1);
         x.hold(4, 2);
         x.hold(9, 2);
-        x.change(2, 5, 7);
-        x.change(2, 6, 7);
         x.change(0, 0, JAR);
         x.wood(9, 60);
         x.wind(2);
         x.winds(2);
+        x.change(2, 5, 7);
+        x.change(2, 6, 7);
         x.sheet(0, 8, 3);
         x.feed(0, 2);
         x.of(9, 9);
