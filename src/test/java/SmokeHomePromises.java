@@ -1,59 +1,6 @@
 /** Each promise of the document on hand-reckoned runs: ordinary inputs, edges, wrong inputs. */
-public final class SmokeHomePromises {
-    private static final int BEYOND = -1000001;
-    private static final int FULL = -1000002;
-    private static final int KIND = -1000003;
-    private static final int NONE = -1000004;
-    private static final int STATE = -1000005;
-    private static final int MISSING = -1000006;
-    private static final int SIZE = -1000007;
-
-    private static final int FIRE = 0;
-    private static final int STOVE = 1;
-    private static final int PRIEST = 2;
-    private static final int POOR = 3;
-    private static final int JAR = 4;
-    private static final int FOREIGN = 5;
-    private static final int BED = 6;
-
+public final class SmokeHomePromises extends Checks {
     private static final int[] WILD = {-1, -2, 7, 25, 1000, Integer.MAX_VALUE, Integer.MIN_VALUE};
-
-    private static int wrong = 0;
-    private static int asked = 0;
-
-    private static void due(int promise, String call, long got, long want) {
-        asked++;
-        if (got != want) {
-            wrong++;
-            System.out.println("promise " + promise + ": " + call + " answered " + got + ", due is " + want);
-        }
-    }
-
-    private static void dueRow(int promise, SmokeHome x, int fire, int[] want) {
-        for (int what = 0; what < want.length; what++) {
-            due(promise, "of(" + fire + ", " + what + ")", x.of(fire, what), want[what]);
-        }
-    }
-
-    private static void type(SmokeHome x, String text) {
-        for (int i = 0; i < text.length(); i++) {
-            x.feed(text.charAt(i), 1);
-        }
-    }
-
-    private static void dueText(SmokeHome x, String text, int want) {
-        x.wipe();
-        type(x, text);
-        due(28, "text() of '" + text + "'", x.text(), want);
-        due(28, "count(5) behind '" + text + "'", x.count(5), 0);
-    }
-
-    private static void fill(SmokeHome x, int s, int bits, int... numbers) {
-        x.sheet(s, bits, numbers.length);
-        for (int i = 0; i < numbers.length; i++) {
-            x.write(s, i, numbers[i]);
-        }
-    }
 
     public static void main(String[] args) {
         newObject();
@@ -101,10 +48,7 @@ public final class SmokeHomePromises {
         images();
         count();
         status();
-        System.out.println(wrong == 0 ? asked + " answers are as due" : wrong + " answers are not as due");
-        if (wrong != 0) {
-            System.exit(1);
-        }
+        finish();
     }
 
     private static void newObject() {
@@ -196,7 +140,7 @@ public final class SmokeHomePromises {
         due(5, "a ninth", x.fire(0, 0, 0), FULL);
         due(5, "a wrong ninth", x.fire(7, 0, 0), BEYOND);
         due(5, "count(1)", x.count(1), 8);
-        dueRow(5, x, 6, new int[] {BED, 6, 18, 50, 6, 0, 0});
+        dueRow(5, x, 6, BED, 6, 18, 50, 6, 0, 0);
     }
 
     private static void of() {
@@ -261,9 +205,9 @@ public final class SmokeHomePromises {
         SmokeHome x = new SmokeHome();
         x.fire(FIRE, 0, 2);
         due(8, "go(1)", x.go(1), 0);
-        dueRow(8, x, 0, new int[] {FIRE, 0, 2, 48, 1, 2, 0});
+        dueRow(8, x, 0, FIRE, 0, 2, 48, 1, 2, 0);
         due(8, "go(1) home", x.go(1), 2);
-        dueRow(8, x, 0, new int[] {FIRE, 0, 2, 48, 0, 0, 0});
+        dueRow(8, x, 0, FIRE, 0, 2, 48, 0, 0, 0);
         due(8, "cell(2, 0)", x.cell(2, 0), 2);
         due(8, "go(10)", x.go(10), 12);
         due(8, "now(0)", x.now(0), 12);
@@ -283,7 +227,7 @@ public final class SmokeHomePromises {
         y.fire(FIRE, 4, 4);
         y.change(0, 5, 6);
         due(8, "go(1) with chimney at home", y.go(1), 6);
-        dueRow(8, y, 0, new int[] {FIRE, 4, 4, 50, 4, 0, 0});
+        dueRow(8, y, 0, FIRE, 4, 4, 50, 4, 0, 0);
         due(8, "go(60) with chimney at home", y.go(60), 6);
         y.change(0, 1, 8);
         due(8, "go(1) without smoke at home", y.go(1), 6);
@@ -307,9 +251,9 @@ public final class SmokeHomePromises {
         x.fire(BED, 0, 11);
         x.wind(4);
         x.go(1);
-        dueRow(8, x, 0, new int[] {BED, 0, 11, 40, 10, 10, 1});
+        dueRow(8, x, 0, BED, 0, 11, 40, 10, 10, 1);
         x.go(2);
-        dueRow(8, x, 0, new int[] {BED, 0, 11, 40, 10, 10, 3});
+        dueRow(8, x, 0, BED, 0, 11, 40, 10, 10, 3);
         x.change(0, 6, 9999);
         x.go(1);
         due(8, "of(0, 6) at most", x.of(0, 6), 9999);
@@ -317,7 +261,7 @@ public final class SmokeHomePromises {
         x.change(0, 5, 995);
         x.wind(1);
         x.go(1);
-        dueRow(8, x, 0, new int[] {BED, 0, 11, 30, 0, 999, 9999});
+        dueRow(8, x, 0, BED, 0, 11, 30, 0, 999, 9999);
     }
 
     private static void goByFirst() {
@@ -974,15 +918,15 @@ public final class SmokeHomePromises {
     private static void textItems() {
         SmokeHome x = new SmokeHome();
         dueText(x, "fire", 1);
-        dueRow(28, x, 0, new int[] {FIRE, 0, 0, 50, 0, 0, 0});
+        dueRow(28, x, 0, FIRE, 0, 0, 50, 0, 0, 0);
         dueText(x, "stove at 7;priest home 9;poor logs 0", 3);
-        dueRow(28, x, 1, new int[] {STOVE, 7, 7, 50, 7, 0, 0});
-        dueRow(28, x, 2, new int[] {PRIEST, 0, 9, 50, 0, 0, 0});
-        dueRow(28, x, 3, new int[] {POOR, 0, 0, 0, 0, 0, 0});
+        dueRow(28, x, 1, STOVE, 7, 7, 50, 7, 0, 0);
+        dueRow(28, x, 2, PRIEST, 0, 9, 50, 0, 0, 0);
+        dueRow(28, x, 3, POOR, 0, 0, 0, 0, 0, 0);
         dueText(x, "  jar at24home0logs999  ;  foreign at 3 logs 7 ; bed home 00024 logs 0000000000012 ", 3);
-        dueRow(28, x, 4, new int[] {JAR, 24, 0, 999, 24, 0, 0});
-        dueRow(28, x, 5, new int[] {FOREIGN, 3, 3, 7, 3, 0, 0});
-        dueRow(28, x, 6, new int[] {BED, 0, 24, 12, 0, 0, 0});
+        dueRow(28, x, 4, JAR, 24, 0, 999, 24, 0, 0);
+        dueRow(28, x, 5, FOREIGN, 3, 3, 7, 3, 0, 0);
+        dueRow(28, x, 6, BED, 0, 24, 12, 0, 0, 0);
         dueText(x, "wind 3;wood 24 9999;wood 0 1;wood 0 2;wind4", 5);
         due(28, "cell(24, 0)", x.cell(24, 0), 9999);
         due(28, "cell(0, 0)", x.cell(0, 0), 2);
@@ -1284,8 +1228,8 @@ public final class SmokeHomePromises {
         x.of(9, 9);
         due(37, "undo()", x.undo(), 1);
         due(37, "count(1)", x.count(1), 2);
-        dueRow(37, x, 0, new int[] {FIRE, 0, 2, 48, 1, 2, 0});
-        dueRow(37, x, 1, new int[] {FIRE, 2, 0, 48, 1, 2, 0});
+        dueRow(37, x, 0, FIRE, 0, 2, 48, 1, 2, 0);
+        dueRow(37, x, 1, FIRE, 2, 0, 48, 1, 2, 0);
         due(37, "now(3)", x.now(3), 1);
         due(37, "as(3, 0)", x.as(3, 0), 1);
         due(37, "as(9, 0)", x.as(9, 0), 0);
@@ -1299,7 +1243,7 @@ public final class SmokeHomePromises {
         x.go(3);
         due(37, "undo() again", x.undo(), 1);
         due(5, "fire anew", x.fire(BED, 9, 8), 2);
-        dueRow(5, x, 2, new int[] {BED, 9, 8, 50, 9, 0, 0});
+        dueRow(5, x, 2, BED, 9, 8, 50, 9, 0, 0);
         due(37, "undo() once more", x.undo(), 1);
         due(37, "of(0, 4)", x.of(0, 4), 1);
         x.go(2);
