@@ -97,16 +97,13 @@ public final class SmokeHomeBoundsOfTexts extends Checks {
             due(28, "byte " + b + " before a WORD", textOf(c + "bed"), blank ? 1 : -1);
             due(28, "byte " + b + " behind a WORD", textOf("bed" + c), blank ? 1 : letter ? -1 : sign ? -5 : -4);
             due(28, "byte " + b + " behind a blank", textOf("bed " + c), blank ? 1 : sign ? -6 : -5);
-            due(28, "byte " + b + " behind a NUMBER", textOf("wind 0" + c), blank ? 1 : digit ? digitBehind0(b) : sign ? -8 : -7);
+            due(28, "byte " + b + " behind a NUMBER", textOf("wind 0" + c),
+                    blank ? 1 : digit ? (b <= '4' ? 1 : -6) : sign ? -8 : -7);
             due(28, "byte " + b + " before a NUMBER", textOf("wind " + c + "1"),
                     blank ? 1 : digit ? (b == '0' ? 1 : -6) : -6);
             due(28, "byte " + b + " behind an ITEM", textOf("bed;bed" + c), blank ? 2 : letter ? -5 : sign ? -9 : -8);
             due(28, "byte " + b + " within a WORD", textOf("b" + c + "d"), b == 'e' ? 1 : -1);
         }
-    }
-
-    private static int digitBehind0(int b) {
-        return b <= '4' ? 1 : -6;
     }
 
     /** A WORD is another one if one letter of it is, or is left out, or is one too much. */
